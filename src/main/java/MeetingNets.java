@@ -110,27 +110,11 @@ public final class MeetingNets {
     // ---- acts
 
     public int tie(int a, int b) {
-        if (!here.holdsPair(a, b)) {
-            return NONE;
-        }
-        if (here.tied(a, b)) {
-            return 1;
-        }
-        acts.keep(here);
-        here.flip(a, b);
-        return 0;
+        return change(a, b, false);
     }
 
     public int part(int a, int b) {
-        if (!here.holdsPair(a, b)) {
-            return NONE;
-        }
-        if (!here.tied(a, b)) {
-            return 1;
-        }
-        acts.keep(here);
-        here.flip(a, b);
-        return 0;
+        return change(a, b, true);
     }
 
     public int come(int set) {
@@ -357,6 +341,18 @@ public final class MeetingNets {
 
     // ---- what the acts and the questions are made of
 
+    private int change(int a, int b, boolean tiedBefore) {
+        if (!here.holdsPair(a, b)) {
+            return NONE;
+        }
+        if (here.tied(a, b) != tiedBefore) {
+            return 1;
+        }
+        acts.keep(here);
+        here.flip(a, b);
+        return 0;
+    }
+
     private int chosen(int what) {
         if (what == 0) {
             return choice.most();
@@ -449,6 +445,16 @@ public final class MeetingNets {
     /** All numbers of points behind p. */
     private static int behind(int p) {
         return -2 << p;
+    }
+
+    /** Whether each two points of a set are together in the rows. */
+    private static boolean eachTwo(int[] rows, int set) {
+        for (int p = 0; p < POINTS_MOST; p++) {
+            if (has(set, p) && (set & ~at(rows, p)) != 1 << p) {
+                return false;
+            }
+        }
+        return true;
     }
 
     /** Points with their ties, and all that can be told of them without a search. */
@@ -677,15 +683,6 @@ public final class MeetingNets {
             return about & behind(b) & ~at(ties, a) & ~at(ties, b);
         }
 
-        boolean isClique(int set) {
-            for (int p = 0; p < points; p++) {
-                if (has(set, p) && (set & ~at(ties, p)) != 1 << p) {
-                    return false;
-                }
-            }
-            return true;
-        }
-
         /**
          * Whether a set of points by itself has a cover. Van Rooij and Wilf: it has one just if it has no claw,
          * and of two odd triangles on one line the tips are always tied.
@@ -728,7 +725,7 @@ public final class MeetingNets {
                 }
                 int others = at(ties, a) & set;
                 for (int b = a + 1; b < points; b++) {
-                    if (has(others, b) && !isClique(oddTips(a, b, set))) {
+                    if (has(others, b) && !eachTwo(ties, oddTips(a, b, set))) {
                         return true;
                     }
                 }
@@ -924,7 +921,7 @@ public final class MeetingNets {
                 return 2;
             }
             int p = draft.size();
-            if (p < names.length) {
+            if (p >= 0 && p < names.length) {
                 names[p] = word;
             }
             draft.add(0);
@@ -1052,16 +1049,7 @@ public final class MeetingNets {
                     return false;
                 }
                 int left = at(open, p) & ~clique;
-                if (left != 0 && (at(seats, p) == 1 || !isOpenClique(left))) {
-                    return false;
-                }
-            }
-            return true;
-        }
-
-        private boolean isOpenClique(int set) {
-            for (int p = 0; p < points; p++) {
-                if (has(set, p) && (set & ~at(open, p)) != 1 << p) {
+                if (left != 0 && (at(seats, p) == 1 || !eachTwo(open, left))) {
                     return false;
                 }
             }
