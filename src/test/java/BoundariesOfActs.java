@@ -132,6 +132,10 @@ public final class BoundariesOfActs extends Sentences {
             MeetingNets x = coming(0, 1, 2, 7);
             due("meet()", x.meet(), 5);
             dueNet("a diamond met", x, 0, 1, 1, 7, 14);
+            MeetingNets y = path(4);
+            due("meet()", y.meet(), 3);
+            due("meet() again", y.meet(), 2);
+            dueNet("a path met twice", y, 0, 1);
         });
         says("23: how many POINTS: none of a NET without LINES", () -> {
             due("meet() of none", new MeetingNets().meet(), 0);
@@ -375,6 +379,10 @@ public final class BoundariesOfActs extends Sentences {
             x.go(1);
             dueColours(x, 0, 1, 0, 1);
             due("colours()", x.colours(), 2);
+            x.tie(1, 3);
+            x.go(0);
+            dueColours(x, 0, 1, 2);
+            due("colours()", x.colours(), 3);
         });
         says("30: NONE: no such one", () -> {
             for (int p : new int[] {3, 4, -1, 14, 32, MAX, MIN}) {
@@ -697,7 +705,6 @@ public final class BoundariesOfActs extends Sentences {
             x.tie(0, 1);
             x.part(1, 0);
             x.part(1, 0);
-            x.part(0, 3);
             x.part(2, 2);
             due("undo() of part()", x.undo(), 4);
             due("near(0)", x.near(0), 2);

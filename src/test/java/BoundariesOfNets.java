@@ -486,6 +486,8 @@ public final class BoundariesOfNets extends Sentences {
             due("now(6) with two of the ends tied", coming(0, 1, 3, 1).now(6), 0);
             due("now(6) of three untied and one", coming(0, 1, 1, 0).now(6), 0);
             // the heart may be any of the four
+            due("now(6) at 1", coming(0, 1, 2, 2).now(6), 1);
+            due("now(6) at 3", coming(0, 0, 0, 7).now(6), 1);
             due("claw() at 1", coming(0, 1, 2, 2).claw(), 15);
             due("claw() at 2", coming(0, 0, 3, 4).claw(), 15);
             due("claw() at 3", coming(0, 0, 0, 7).claw(), 15);
