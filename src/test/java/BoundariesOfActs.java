@@ -705,6 +705,7 @@ public final class BoundariesOfActs extends Sentences {
             x.tie(0, 1);
             x.part(1, 0);
             x.part(1, 0);
+            x.part(0, 3);
             x.part(2, 2);
             due("undo() of part()", x.undo(), 4);
             due("near(0)", x.near(0), 2);
